@@ -23,7 +23,7 @@ public final class SettlementHouse {
 
     public SettlementHouse() {
         tape = new byte[TAPE_BYTES];
-        message = new Message();
+        message = new Message(tape);
         answer = new Answer();
         disk = new Disk();
         books = new Books();
@@ -49,7 +49,7 @@ public final class SettlementHouse {
         }
         answer.clear();
         taped = 0;
-        int verdict = message.read(tape, n) ? desk.judge(message) : Desk.NO_MESSAGE;
+        int verdict = message.read(n) ? desk.judge(message) : Desk.NO_MESSAGE;
         if (verdict != Desk.FINE) {
             answer.putVerdict(verdict);
             return ANSWERED;
@@ -173,7 +173,7 @@ public final class SettlementHouse {
         private static final int CHECK_BYTES = 2;
         private static final int CHECK_DIVISOR = 97;
 
-        private byte[] bytes;
+        private final byte[] bytes;
         private int length;
         private int at;
         private boolean sound;
@@ -195,10 +195,13 @@ public final class SettlementHouse {
         int priority;
         long target;
 
-        boolean read(byte[] tape, int n) {
+        Message(byte[] tape) {
             bytes = tape;
-            length = Math.min(n, tape.length);
-            at = 0;
+        }
+
+        /** Whether the first n bytes of the tape are one. */
+        boolean read(int n) {
+            length = Math.min(n, bytes.length);
             sound = true;
             codesSize = 0;
             amountsSize = 0;
@@ -209,6 +212,9 @@ public final class SettlementHouse {
             senderCode = (int) readCode(PARTICIPANT_BYTES);
             reference = readCode(REFERENCE_BYTES);
             readFields(fieldsOf(kind));
+            if (kind == AST && !security && (amounts[0] != 0 || haircut != 0)) {
+                return false;
+            }
             return kind >= 0 && sound && at == length - CHECK_BYTES;
         }
 
@@ -266,7 +272,7 @@ public final class SettlementHouse {
             return -1;
         }
 
-        /** The letters are those that readField knows. */
+        /** The letters are those that readFields knows. */
         private static String fieldsOf(int kind) {
             switch (kind) {
                 case NEW: return "n";
@@ -288,26 +294,19 @@ public final class SettlementHouse {
 
         private void readFields(String fields) {
             for (int i = 0; i < fields.length() && sound; i++) {
-                readField(fields.charAt(i));
-            }
-            if (kind == AST && !security && (amounts[0] != 0 || haircut != 0)) {
-                sound = false;
-            }
-        }
-
-        private void readField(char field) {
-            switch (field) {
-                case 'n': newCode = (int) readCode(PARTICIPANT_BYTES); break;
-                case 'm': newCode = (int) readCode(ASSET_BYTES); break;
-                case 's': readSort(); break;
-                case 'p': readKnownCode(false); break;
-                case 'a': readKnownCode(true); break;
-                case 'v': readAmount(); break;
-                case 'h': haircut = (int) readDigits(HAIRCUT_BYTES); break;
-                case 'y': readPriority(); break;
-                case 'r': target = readCode(REFERENCE_BYTES); break;
-                case 'l': readLegs(); break;
-                default: sound = false;
+                switch (fields.charAt(i)) {
+                    case 'n': newCode = (int) readCode(PARTICIPANT_BYTES); break;
+                    case 'm': newCode = (int) readCode(ASSET_BYTES); break;
+                    case 's': readSort(); break;
+                    case 'p': readKnownCode(false); break;
+                    case 'a': readKnownCode(true); break;
+                    case 'v': readAmount(); break;
+                    case 'h': haircut = (int) readDigits(HAIRCUT_BYTES); break;
+                    case 'y': readPriority(); break;
+                    case 'r': target = readCode(REFERENCE_BYTES); break;
+                    case 'l': readLegs(); break;
+                    default: sound = false;
+                }
             }
         }
 
@@ -390,7 +389,7 @@ public final class SettlementHouse {
         }
 
         private static int valueOf(int letter) {
-            return isDigit(letter) ? letter - '0' : letter - 'A' + 10;
+            return letter <= '9' ? letter - '0' : letter - 'A' + 10;
         }
     }
 
@@ -612,7 +611,7 @@ public final class SettlementHouse {
             }
             // pledged * part may be too large for a long, so hundreds and what is left of them are taken one by one.
             long worth = pledged * whole + pledged / 100 * part + pledged % 100 * part / 100;
-            return Math.min(worth, Books.MOST + 1);
+            return worth > Books.MOST ? Books.MOST + 1 : worth;
         }
     }
 
@@ -713,16 +712,23 @@ public final class SettlementHouse {
             return account;
         }
 
-        /** There is one for all who ever paid one another, for a limit may be set behind that; without one it has no floor. */
-        Position room(int p, int towards) {
+        Position findRoom(int p, int towards) {
             ArrayList<Position> rooms = participants[p].rooms;
             for (int i = 0; i < rooms.size(); i++) {
                 if (rooms.get(i).towards == towards) {
                     return rooms.get(i);
                 }
             }
-            Position room = new Position(towards);
-            rooms.add(room);
+            return null;
+        }
+
+        /** There is one for all who ever paid one another, for a limit may be set behind that; without one it has no floor. */
+        Position room(int p, int towards) {
+            Position room = findRoom(p, towards);
+            if (room == null) {
+                room = new Position(towards);
+                participants[p].rooms.add(room);
+            }
             return room;
         }
 
@@ -851,7 +857,6 @@ public final class SettlementHouse {
         static final int QUEUED = 1;
         static final int SETTLED = 2;
         static final int SENT_BACK = 3;
-        static final int GIVEN_UP = 4;
 
         /** Of two accounts and two rooms a leg. */
         private static final int POSITIONS_A_LEG = 4;
@@ -1028,7 +1033,6 @@ public final class SettlementHouse {
                 return;
             }
             if (!one.awaitsNobody()) {
-                one.state = Instruction.UNCONFIRMED;
                 unconfirmed[unconfirmedSize] = one;
                 unconfirmedSize++;
                 return;
@@ -1044,6 +1048,9 @@ public final class SettlementHouse {
         }
 
         void leave(Instruction one) {
+            if (one == null) {
+                return;
+            }
             if (one.state == Instruction.QUEUED) {
                 queuedSize = takeOut(queued, queuedSize, one);
             } else if (one.state == Instruction.UNCONFIRMED) {
@@ -1114,9 +1121,7 @@ public final class SettlementHouse {
             // Each pass but the last drops one at least.
             for (int pass = 0; pass <= MOST && dropped; pass++) {
                 dropped = dropTooMany();
-                if (dropFollowers()) {
-                    dropped = true;
-                }
+                dropFollowers();
             }
             settleChosen();
         }
@@ -1136,20 +1141,17 @@ public final class SettlementHouse {
             return dropped;
         }
 
-        private boolean dropFollowers() {
+        private void dropFollowers() {
             look++;
-            boolean dropped = false;
             for (int i = 0; i < queuedSize; i++) {
                 Instruction one = queued[i];
                 if (one.chosen && one.takesMarked(look)) {
                     one.leaveTrial();
-                    dropped = true;
                 }
                 if (!one.chosen) {
                     one.markTaken(look);
                 }
             }
-            return dropped;
         }
 
         private void settleChosen() {
@@ -1331,7 +1333,7 @@ public final class SettlementHouse {
                 case Message.CAN:
                 case Message.PRI: return queue.find(m.sender, m.target) == null ? NO_INSTRUCTION : FINE;
                 case Message.LIM: return judgeLimit(m);
-                case Message.UNL: return books.room(m.sender, m.found[0]).floored ? FINE : CANNOT_BE;
+                case Message.UNL: return judgeUnlimit(m);
                 case Message.PLG: return judgePledge(m);
                 case Message.UNP: return judgeUnpledge(m);
                 default: return FINE;
@@ -1404,11 +1406,17 @@ public final class SettlementHouse {
             if (m.sender == Books.BANK || towards == Books.BANK || towards == m.sender) {
                 return CANNOT_BE;
             }
-            Position room = books.room(m.sender, towards);
-            if (room.level < -m.amounts[0]) {
+            Position room = books.findRoom(m.sender, towards);
+            if (room != null && room.level < -m.amounts[0]) {
                 return BELOW_FLOOR;
             }
-            return room.floored || books.limits < Books.MOST_LIMITS ? FINE : NO_PLACE;
+            boolean replaced = room != null && room.floored;
+            return replaced || books.limits < Books.MOST_LIMITS ? FINE : NO_PLACE;
+        }
+
+        private int judgeUnlimit(Message m) {
+            Position room = books.findRoom(m.sender, m.found[0]);
+            return room != null && room.floored ? FINE : CANNOT_BE;
         }
 
         private boolean canBePledged(Message m) {
@@ -1476,7 +1484,7 @@ public final class SettlementHouse {
                 case Message.PRC: books.setPrice(m.found[0], m.amounts[0], m.haircut); break;
                 case Message.ISS: books.give(m.found[0], m.found[1], m.amounts[0]); break;
                 case Message.RED: books.give(m.found[0], m.found[1], -m.amounts[0]); break;
-                case Message.CAN: giveUp(queue.find(m.sender, m.target)); break;
+                case Message.CAN: queue.leave(queue.find(m.sender, m.target)); break;
                 case Message.PRI: putBehind(queue.find(m.sender, m.target), m.priority); break;
                 case Message.LIM: books.setLimit(books.room(m.sender, m.found[0]), m.amounts[0]); break;
                 case Message.UNL: books.dropLimit(books.room(m.sender, m.found[0])); break;
@@ -1525,13 +1533,6 @@ public final class SettlementHouse {
                 queue.come(one);
             }
             return one;
-        }
-
-        private void giveUp(Instruction one) {
-            if (one != null) {
-                queue.leave(one);
-                one.state = Instruction.GIVEN_UP;
-            }
         }
 
         private void putBehind(Instruction one, int priority) {

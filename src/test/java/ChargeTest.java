@@ -88,6 +88,14 @@ public final class ChargeTest {
         edge.counts(8, 2);
         edge.counts(9, 21);
 
+        // 13 of 25 bytes and 22 of 8: one byte lies in the second block.
+        Bench one = blockOfNew("a byte over the edge", 13);
+        for (int i = 0; i < 22; i++) {
+            one.tick(1);
+        }
+        one.counts(8, 2);
+        one.counts(9, 13 + 22 + 1);
+
         Bench b = blockOfNew("over the edge", 19);
         b.tick(1);
         b.counts(8, 1);
@@ -163,42 +171,52 @@ public final class ChargeTest {
         whole.is("then no more", whole.tick(1), 2);
     }
 
-    /** 20 + 4 * 5 + 14 * 3 = 82 bytes, and 12 for each amount: 418 are left in the first block, room for 34. */
-    private static void theSizeOfASnapshot() {
-        Bench b = Bench.open("size");
-        b.issue("BND", "AAAA", 10);
-        b.issue("EUR", "AAAA", 10);
-        b.quietly("PLG", "AAAA", "BND" + Bench.amount(4));
-        b.quietly("LIM", "AAAA", "BBBB" + Bench.amount(0));
-        // 4 positions, 1 pledge, 1 limit: 28 limits more fill the block.
-        String[] all = {"AAAA", "BBBB", "CCCC", "DDDD", "EEEE", "FFFF", "GGGG"};
+    /** What a call of tick(1000) writes beside the block of its record. */
+    private static int snapshotBlocks(Bench b) {
         int before = b.count(9);
         b.tick(1000);
-        b.is("small", b.count(9) - before, 3);
-        for (int i = 4; i < all.length; i++) {
-            b.quietly("NEW", "CBNK", all[i]);
+        return b.count(9) - before - 1;
+    }
+
+    private static void theSizeOfASnapshot() {
+        Bench b = new Bench("size");
+        for (int i = 0; i < 6; i++) {
+            b.quietly("AST", "CBNK", "AS" + i + (i == 5 ? "C" : "S") + Bench.amount(0) + "00");
         }
-        // 94 bytes now, 406 are left: room for 33 amounts, so 27 limits more fill the block.
-        int more = 27;
-        for (int i = 0; i < all.length && more > 0; i++) {
-            for (int j = 0; j < all.length && more > 0; j++) {
-                if (i != j && !(i == 0 && j == 1)) {
-                    b.quietly("LIM", all[i], all[j] + Bench.amount(7));
-                    more--;
+        for (int i = 0; i < 8; i++) {
+            b.quietly("NEW", "CBNK", "PPP" + i);
+        }
+        b.tick(100);
+        b.issue("AS0", "PPP0", 10);
+        b.issue("AS5", "PPP0", 10);
+        b.quietly("PLG", "PPP0", "AS0" + Bench.amount(4));
+        b.is("small", snapshotBlocks(b), 2);
+        // 20 + 4 * 9 + 14 * 6 = 140 bytes and 12 for each amount: four positions and a pledge, so 25 limits fill the block.
+        int limits = 0;
+        for (int i = 0; limits < 25; i++) {
+            for (int j = 0; j < 8 && limits < 25; j++) {
+                if (i != j) {
+                    b.quietly("LIM", "PPP" + i, "PPP" + j + Bench.amount(limits % 2));
+                    limits++;
                 }
             }
         }
-        int written = b.count(9);
-        b.tick(1000);
-        b.is("full", b.count(9) - written, 3);
-        b.quietly("LIM", "GGGG", "AAAA" + Bench.amount(7));
-        b.quietly("LIM", "GGGG", "AAAA" + Bench.amount(8));
-        written = b.count(9);
-        b.tick(1000);
-        b.is("more than a block", b.count(9) - written, 4);
-        b.quietly("UNL", "GGGG", "AAAA");
-        written = b.count(9);
-        b.tick(1000);
-        b.is("full again", b.count(9) - written, 3);
+        b.is("full", snapshotBlocks(b), 2);
+        b.quietly("LIM", "PPP7", "PPP0" + Bench.amount(7));
+        b.is("more than a block", snapshotBlocks(b), 3);
+        b.quietly("LIM", "PPP7", "PPP0" + Bench.amount(8));
+        b.quietly("UNL", "PPP0", "PPP1");
+        b.is("full again", snapshotBlocks(b), 2);
+        b.quietly("UNL", "PPP7", "PPP0");
+        b.quietly("PLG", "PPP0", "AS0" + Bench.amount(4));
+        b.quietly("ISS", "CBNK", "AS5PPP1" + Bench.amount(1));
+        b.is("full by a position", snapshotBlocks(b), 2);
+        b.quietly("ISS", "CBNK", "AS5PPP2" + Bench.amount(1));
+        b.is("more by a position", snapshotBlocks(b), 3);
+        b.quietly("UNP", "PPP0", "AS0" + Bench.amount(8));
+        b.is("full without a pledge", snapshotBlocks(b), 2);
+        b.quietly("RED", "CBNK", "AS0PPP0" + Bench.amount(10));
+        b.quietly("NEW", "CBNK", "PPP8");
+        b.is("not full without two positions", snapshotBlocks(b), 2);
     }
 }

@@ -6,6 +6,7 @@ public final class CreditTest {
         creditIsAFloor();
         inTheFirstCurrencyAlone();
         roundedDownForEachSecurity();
+        roundedDownInLargeAmounts();
         aPledgeIsOfWhatIsThere();
         noMorePledged();
         aPriceFalls();
@@ -13,7 +14,9 @@ public final class CreditTest {
         pledgedBeforeThereIsACurrency();
         theFirstCurrencyIsTheFirstMade();
         tooMuchCredit();
+        tooMuchCreditByOne();
         tooMuchCreditByAPrice();
+        exactlyAllCreditByAPrice();
         Bench.finish();
     }
 
@@ -62,6 +65,20 @@ public final class CreditTest {
         b.say("RED", "CBNK", "EURAAAA" + Bench.amount(1), "OK|");
         b.say("PRC", "CBNK", "BND" + Bench.amount(1) + "19", "NO 09|");
         b.holds(1, 0, -9);
+    }
+
+    private static void roundedDownInLargeAmounts() {
+        Bench b = Bench.open("rounded, large");
+        b.quietly("PRC", "CBNK", "BND" + Bench.amount(1) + "01");
+        b.issue("BND", "AAAA", 99999);
+        b.quietly("PLG", "AAAA", pledge("BND", 12345));
+        // 12345 * 99 / 100 is 12221 and a half.
+        b.say("RED", "CBNK", "EURAAAA" + Bench.amount(12222), "NO 09|");
+        b.say("RED", "CBNK", "EURAAAA" + Bench.amount(12221), "OK|");
+        b.quietly("PRC", "CBNK", "BND" + Bench.amount(17) + "83");
+        // 12345 * 289 / 100 is 35677 and a bit.
+        b.say("RED", "CBNK", "EURAAAA" + Bench.amount(35678 - 12221), "NO 09|");
+        b.say("RED", "CBNK", "EURAAAA" + Bench.amount(35677 - 12221), "OK|");
     }
 
     private static void aPledgeIsOfWhatIsThere() {
@@ -184,6 +201,36 @@ public final class CreditTest {
         b.say("PLG", "CCCC", pledge("BND", LARGEST), "NO 10|");
         b.say("PLG", "CCCC", pledge("BND", 4611687L), "NO 10|");
         b.say("PLG", "CCCC", pledge("BND", 10000L), "OK|");
+    }
+
+    private static void tooMuchCreditByOne() {
+        Bench b = Bench.open("one too much");
+        b.quietly("AST", "CBNK", "SHRS" + Bench.amount(1) + "00");
+        b.quietly("PRC", "CBNK", "BND" + Bench.amount(4000000000000L) + "00");
+        b.issue("BND", "AAAA", 1000000);
+        b.issue("SHR", "BBBB", 1);
+        b.say("PLG", "AAAA", pledge("BND", 1000000), "OK|");
+        b.say("PLG", "BBBB", pledge("SHR", 1), "NO 10|");
+        // Too much only by the part of a hundred that price and haircut leave: 57157 * 7 is 400099.
+        Bench part = Bench.open("a part too much");
+        part.quietly("PRC", "CBNK", "BND" + Bench.amount(57157) + "93");
+        part.issue("BND", "AAAA", LARGEST);
+        part.say("PLG", "AAAA", pledge("BND", LARGEST), "NO 10|");
+        part.say("PLG", "AAAA", pledge("BND", 999752561241092L), "OK|");
+        part.say("PLG", "AAAA", pledge("BND", 1), "NO 10|");
+    }
+
+    private static void exactlyAllCreditByAPrice() {
+        Bench b = Bench.open("exactly all");
+        b.issue("BND", "AAAA", 1000000000000L);
+        b.issue("BND", "BBBB", 1000000000000L);
+        b.quietly("PLG", "AAAA", pledge("BND", 1000000000000L));
+        b.say("PRC", "CBNK", "BND" + Bench.amount(4000001L) + "00", "NO 10|");
+        b.say("PRC", "CBNK", "BND" + Bench.amount(4000000L) + "00", "OK|");
+        b.say("PRC", "CBNK", "BND" + Bench.amount(1) + "00", "OK|");
+        b.quietly("PLG", "BBBB", pledge("BND", 1000000000000L));
+        b.say("PRC", "CBNK", "BND" + Bench.amount(2000001L) + "00", "NO 10|");
+        b.say("PRC", "CBNK", "BND" + Bench.amount(2000000L) + "00", "OK|");
     }
 
     private static void tooMuchCreditByAPrice() {

@@ -6,7 +6,7 @@ public final class ResolvingTest {
         whoFollowsIsDropped();
         whatIsDroppedTakesItsGiftsAway();
         partOfTheQueue();
-        thenAsAlways();
+        theGreatest();
         severalAssets();
         nothingToResolve();
         Bench.finish();
@@ -82,9 +82,9 @@ public final class ResolvingTest {
         b.holds(4, 0, 1);
     }
 
-    /** Behind a set the queue goes on: the room of the position that the set left free is used up in order. */
-    private static void thenAsAlways() {
-        Bench b = Bench.open("then as always");
+    /** In it is also what could settle only behind others of it. */
+    private static void theGreatest() {
+        Bench b = Bench.open("the greatest");
         b.say("LIM", "AAAA", "BBBB" + Bench.amount(9), "OK|");
         pay(b, "P0000001", "AAAA", "BBBB", 9);
         pay(b, "P0000002", "BBBB", "AAAA", 9);
