@@ -264,5 +264,14 @@ public final class SendTest {
         }
         b.holds(0, 64, 0);
         b.holds(1, 64, 0);
+        StringBuilder moved = new StringBuilder("OK|");
+        StringBuilder kept = new StringBuilder("OK|");
+        for (int i = 0; i < 64; i += 9) {
+            moved.append("X" + (10 + i) + " 0 0 " + (i + 1) + " " + (i + 1) + " 1|");
+            kept.append("X" + (10 + i) + " " + (i + 1) + " 0 0 " + (i + 1) + " 0|");
+        }
+        b.say("STM", "AAAA", "", moved.toString());
+        b.pass(1000, "");
+        b.say("STM", "AAAA", "", kept.toString());
     }
 }
