@@ -5,11 +5,22 @@ final class Bench {
 
     final SettlementHouse house = new SettlementHouse();
     private final String name;
+    private final int mostCalls;
     private int calls = 0;
     private int references = 0;
 
     Bench(String name) {
+        this(name, MOST_CALLS);
+    }
+
+    private Bench(String name, int mostCalls) {
         this.name = name;
+        this.mostCalls = mostCalls;
+    }
+
+    /** A bench whose run may be longer than the document speaks of. */
+    static Bench endless(String name) {
+        return new Bench(name, Integer.MAX_VALUE);
     }
 
     /** Ends a test's main. */
@@ -56,8 +67,8 @@ final class Bench {
 
     private void call() {
         calls++;
-        if (calls > MOST_CALLS) {
-            due(name + ": more calls than the document speaks of", calls, MOST_CALLS);
+        if (calls > mostCalls) {
+            due(name + ": more calls than the document speaks of", calls, mostCalls);
         }
     }
 
@@ -188,9 +199,26 @@ final class Bench {
         due(name + ": " + what, got, want);
     }
 
+    /** What count and position tell of a house of at most five participants and three assets; costs 25 calls. */
+    String state() {
+        StringBuilder text = new StringBuilder();
+        for (int what = 0; what <= 9; what++) {
+            text.append(count(what)).append(' ');
+        }
+        for (int p = 0; p < 5; p++) {
+            for (int a = 0; a < 3; a++) {
+                text.append(position(p, a)).append(' ');
+            }
+        }
+        return text.toString();
+    }
+
     /** EUR (0, the first currency), USD (1), BND (2, a security at 100 less 10 of 100), AAAA .. DDDD (1 .. 4). */
     static Bench ready(String name) {
-        Bench b = new Bench(name);
+        return furnish(new Bench(name));
+    }
+
+    static Bench furnish(Bench b) {
         b.quietly("AST", "CBNK", "EURC" + amount(0) + "00");
         b.quietly("AST", "CBNK", "USDC" + amount(0) + "00");
         b.quietly("AST", "CBNK", "BNDS" + amount(100) + "10");
@@ -202,8 +230,15 @@ final class Bench {
 
     /** The same, in the phase OPEN. */
     static Bench open(String name) {
+        return at(name, 100);
+    }
+
+    /** The same, at that tick of the first day. */
+    static Bench at(String name, int tick) {
         Bench b = ready(name);
-        b.tick(100);
+        if (tick > 0) {
+            b.tick(tick);
+        }
         return b;
     }
 

@@ -4,7 +4,6 @@ public final class SendTest {
         refused();
         theFirstBytesOfTheTape();
         checkDigits();
-        bytesThatNoMessageHas();
         bytesAndLengths();
         fieldsThatAreNone();
         faultsOneBehindTheOther();
@@ -80,17 +79,6 @@ public final class SendTest {
             }
         }
         b.is("found one", false, true);
-    }
-
-    /** Whatever the check digits are: a byte that is no letter or digit has no value that they could be right for. */
-    private static void bytesThatNoMessageHas() {
-        for (char c : new char[] {'/', ':', '@', '[', 'a', 'z', ' ', '\0', '\u00b1', '\u00c1'}) {
-            Bench b = new Bench("byte " + (int) c);
-            for (int check = 0; check < 97; check++) {
-                b.post("STMCBNK000" + c + "0000" + String.format("%02d", check));
-                b.is("NO 01", b.fetch(), 0x064E4F2030310A00L);
-            }
-        }
     }
 
     private static void bytesAndLengths() {
