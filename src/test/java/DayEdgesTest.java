@@ -27,6 +27,7 @@ public final class DayEdgesTest {
         netOfNothingIsNoMove();
         assetsByWhenTheyCame();
         statementsOfManyDigits();
+        statementsOfAllAssets();
         statementsInEveryPhase();
         aTicksLines();
         Bench.finish();
@@ -409,6 +410,23 @@ public final class DayEdgesTest {
         b.say("STM", "BBBB", "", "OK|EUR 0 0 159999999999999840 159999999999999840 40|");
         b.tick(1000);
         b.say("STM", "AAAA", "", "OK|EUR -159999999999999840 0 0 -159999999999999840 0|BND 1000000 0 0 1000000 0|");
+    }
+
+    /** "a line behind OK for each asset": of 64 that there can be, every third one and the last one */
+    private static void statementsOfAllAssets() {
+        Bench b = new Bench("all assets");
+        for (int i = 10; i < 74; i++) {
+            b.quietly("AST", "CBNK", "A" + i + "C" + NIL + "00");
+        }
+        b.quietly("NEW", "CBNK", "AAAA");
+        b.tick(100);
+        b.say("STM", "CBNK", "", "OK|");
+        StringBuilder lines = new StringBuilder("OK|");
+        for (int i = 10; i < 74; i += 3) {
+            b.issue("A" + i, "AAAA", 1);
+            lines.append("A" + i + " 0 1 0 -1 1|");
+        }
+        b.say("STM", "CBNK", "", lines.toString());
     }
 
     /** STM is taken and told at any tick, and is no record. */

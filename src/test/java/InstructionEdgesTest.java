@@ -28,6 +28,9 @@ public final class InstructionEdgesTest {
         setOfOne();
         setToItsFloor();
         setWithAllBeforeEachOne();
+        setWithoutMoreThanNeedsBe();
+        setWithoutThoseBehindOneThatIsOut();
+        setOfSeveralAssets();
         setAtOnce();
         thenAsAbove();
         linesOfTheSettled();
@@ -462,6 +465,61 @@ public final class InstructionEdgesTest {
         b.sayAs("PAY", "BBBB", "PAY00004", eur(5, "BBBB", "AAAA", 1), "OK WAIT|");
         b.say("RES", "CBNK", "", "OK|SAAAAPAY00003|SBBBBPAY00004|");
         b.counts(5, 1);
+    }
+
+    /** "there is a greatest one": what is left out is in no such set */
+    private static void setWithoutMoreThanNeedsBe() {
+        Bench b = Bench.open("no more than needs be");
+        b.sayAs("PAY", "AAAA", "PAY00001", eur(5, "AAAA", "BBBB", 7), "OK WAIT|");
+        b.sayAs("PAY", "BBBB", "PAY00002", eur(5, "BBBB", "AAAA", 8), "OK WAIT|");
+        b.sayAs("PAY", "AAAA", "PAY00003", eur(5, "AAAA", "BBBB", 1), "OK WAIT|");
+        b.sayAs("PAY", "AAAA", "PAY00004", eur(5, "AAAA", "BBBB", 1), "OK WAIT|");
+        b.sayAs("PAY", "AAAA", "PAY00005", eur(5, "AAAA", "BBBB", 1), "OK WAIT|");
+        b.sayAs("PAY", "CCCC", "PAY00006", eur(1, "CCCC", "DDDD", 1), "OK WAIT|");
+        b.say("RES", "CBNK", "", "OK|SAAAAPAY00001|SBBBBPAY00002|SAAAAPAY00003|");
+        b.counts(5, 3);
+        b.pass(800, "BCCCCPAY00006|BAAAAPAY00004|BAAAAPAY00005|");
+        // What CCCC can't give was to be for the last one of AAAA's two: the first one stays in.
+        Bench gift = Bench.open("the last one goes first");
+        gift.sayAs("PAY", "AAAA", "PAY00001", eur(1, "AAAA", "BBBB", 3), "OK WAIT|");
+        gift.sayAs("PAY", "CCCC", "PAY00002", eur(2, "CCCC", "AAAA", 2), "OK WAIT|");
+        gift.sayAs("PAY", "AAAA", "PAY00003", eur(3, "AAAA", "BBBB", 2), "OK WAIT|");
+        gift.sayAs("PAY", "BBBB", "PAY00004", eur(4, "BBBB", "AAAA", 3), "OK WAIT|");
+        gift.say("RES", "CBNK", "", "OK|SAAAAPAY00001|SBBBBPAY00004|");
+        gift.counts(5, 2);
+    }
+
+    /** The same of one that could settle by itself, were none before it left out. */
+    private static void setWithoutThoseBehindOneThatIsOut() {
+        Bench b = Bench.open("behind one that is out");
+        b.issue("EUR", "BBBB", 9);
+        b.sayAs("PAY", "BBBB", "BOTH0000", "52" + Bench.leg("AAAA", "DDDD", "EUR", 1) + Bench.leg("BBBB", "DDDD", "EUR", 6), "OK CONF|");
+        b.say("CNF", "AAAA", "BBBBBOTH0000", "OK WAIT|");
+        // It follows by BBBB's EUR, the next one has nothing without it, and the last one follows that by CCCC's USD.
+        b.sayAs("PAY", "BBBB", "PAY00001", eur(5, "BBBB", "CCCC", 1), "OK WAIT|");
+        b.issue("USD", "CCCC", 9);
+        b.sayAs("PAY", "CCCC", "PAY00002", "52" + Bench.leg("CCCC", "DDDD", "EUR", 1) + Bench.leg("CCCC", "DDDD", "USD", 1), "OK WAIT|");
+        b.sayAs("PAY", "CCCC", "PAY00003", pay(5, "CCCC", "DDDD", "USD", 1), "OK WAIT|");
+        b.say("RES", "CBNK", "", "OK|");
+        b.counts(5, 4);
+        b.say("CAN", "BBBB", "BOTH0000", "OK|SBBBBPAY00001|SCCCCPAY00002|SCCCCPAY00003|");
+    }
+
+    /** The same where each position is looked at from what it has: in one asset it is taken from, in another it waits. */
+    private static void setOfSeveralAssets() {
+        Bench b = Bench.open("several assets");
+        b.issue("BND", "AAAA", 5);
+        b.sayAs("PAY", "AAAA", "SELL0000", "52" + Bench.leg("AAAA", "BBBB", "BND", 5) + Bench.leg("AAAA", "BBBB", "EUR", 1), "OK WAIT|");
+        b.sayAs("PAY", "BBBB", "PAY00001", eur(5, "BBBB", "AAAA", 1), "OK WAIT|");
+        b.say("RES", "CBNK", "", "OK|SAAAASELL0000|SBBBBPAY00001|");
+        b.holds(1, 2, 0);
+        b.holds(2, 2, 5);
+        // A second time: what was looked at before is not what is there now.
+        b.sayAs("PAY", "AAAA", "SELL0001", "52" + Bench.leg("AAAA", "BBBB", "BND", 1) + Bench.leg("AAAA", "BBBB", "EUR", 1), "OK WAIT|");
+        b.sayAs("PAY", "BBBB", "PAY00002", eur(5, "BBBB", "AAAA", 1), "OK WAIT|");
+        b.say("RES", "CBNK", "", "OK|");
+        b.sayAs("PAY", "BBBB", "BACK0000", pay(5, "BBBB", "AAAA", "BND", 1), "OK DONE|SBBBBBACK0000|");
+        b.say("RES", "CBNK", "", "OK|SAAAASELL0001|SBBBBPAY00002|");
     }
 
     /** "all in it settle, at once (told in their order)" */

@@ -11,6 +11,7 @@ public final class PositionEdgesTest {
         roundedDown();
         roundedDownThenSummedUp();
         creditOfNothing();
+        creditFromBeforeThereWasACurrency();
         largestCredit();
         pledgedIsAtMostThePosition();
         pledgedIsAFloor();
@@ -189,6 +190,27 @@ public final class PositionEdgesTest {
         b.say("RED", "CBNK", "EURAAAA" + Bench.amount(1), "NO 09|");
         b.say("PLG", "AAAA", of("BND", 1), "OK|");
         b.say("RED", "CBNK", "EURAAAA" + Bench.amount(1), "OK|");
+    }
+
+    /** "in the first currency less its CREDIT": also by what was pledged before there was one */
+    private static void creditFromBeforeThereWasACurrency() {
+        Bench b = new Bench("before there was a currency");
+        b.quietly("AST", "CBNK", "BNDS" + Bench.amount(100) + "10");
+        b.quietly("NEW", "CBNK", "AAAA");
+        b.quietly("NEW", "CBNK", "BBBB");
+        b.tick(100);
+        b.issue("BND", "AAAA", 2);
+        b.say("PLG", "AAAA", of("BND", 2), "OK|");
+        // Without a first currency no price and no pledge is too low.
+        b.say("PRC", "CBNK", of("BND", 0) + "00", "OK|");
+        b.say("PRC", "CBNK", of("BND", 100) + "10", "OK|");
+        b.say("UNP", "AAAA", of("BND", 1), "OK|");
+        b.quietly("AST", "CBNK", "EURC" + Bench.amount(0) + "00");
+        b.say("RED", "CBNK", "EURAAAA" + Bench.amount(91), "NO 09|");
+        b.say("PAY", "AAAA", pay("AAAA", "BBBB", "EUR", 91), "OK WAIT|");
+        b.quietly("CAN", "AAAA", "T0000011");
+        b.say("PAY", "AAAA", pay("AAAA", "BBBB", "EUR", 90), "OK DONE|SAAAAT0000013|");
+        b.say("UNP", "AAAA", of("BND", 1), "NO 09|");
     }
 
     /** The floor stays exact where the credit is as large as can be: 4 * 10 ^ 18 and four pays of the largest amount. */
@@ -594,6 +616,13 @@ public final class PositionEdgesTest {
         b.say("PLG", "CCCC", of("ONE", LARGEST - 999999999999L), "NO 10|");
         b.say("PLG", "CCCC", of("ONE", 1000000000000L), "OK|");
         b.say("PLG", "CCCC", of("ONE", 1), "NO 10|");
+        // Too large only by what the hundredths of a factor sum up to: 57157 * 7 are 400099.
+        Bench part = Bench.open("PLG too large by a part");
+        part.quietly("PRC", "CBNK", of("BND", 57157) + "93");
+        part.issue("BND", "AAAA", LARGEST);
+        part.say("PLG", "AAAA", of("BND", LARGEST), "NO 10|");
+        part.say("PLG", "AAAA", of("BND", 999752561241093L), "NO 10|");
+        part.say("PLG", "AAAA", of("BND", 999752561241092L), "OK|");
         // What gives no credit is not too large.
         b.quietly("AST", "CBNK", "NILS" + Bench.amount(0) + "00");
         b.issue("NIL", "CCCC", LARGEST);
@@ -614,6 +643,11 @@ public final class PositionEdgesTest {
         b.say("PRC", "CBNK", of("BND", 100000000) + "98", "NO 10|");
         b.say("PRC", "CBNK", of("BND", 100000000) + "99", "OK|");
         b.say("PRC", "CBNK", of("BND", 100000001) + "99", "NO 10|");
+        Bench alone = Bench.open("PRC too large for one alone");
+        alone.issue("BND", "AAAA", 1000000000000L);
+        alone.quietly("PLG", "AAAA", of("BND", 1000000000000L));
+        alone.say("PRC", "CBNK", of("BND", 4000001) + "00", "NO 10|");
+        alone.say("PRC", "CBNK", of("BND", 4000000) + "00", "OK|");
         // The sum of the four comes round to a small one in 64 bits: 4 * 10 ^ 12 * 4611687 is above 2 ^ 64 by 3 * 10 ^ 12.
         b.say("PRC", "CBNK", of("BND", 4611687) + "00", "NO 10|");
         b.say("PRC", "CBNK", of("BND", 0) + "00", "OK|");

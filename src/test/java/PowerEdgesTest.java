@@ -17,6 +17,7 @@ public final class PowerEdgesTest {
         participantsOfASnapshot();
         assetsOfASnapshot();
         amountsOfASnapshot();
+        oneOfEachAmount();
         snapshotOfThreeBlocks();
         theJournalBeginsAnew();
         theJournalGoesOn();
@@ -324,6 +325,25 @@ public final class PowerEdgesTest {
         bank.is("of another one", snapshot(bank), 2);
         bank.quietly("PAY", "BBBB", eur("BBBB", "AAAA", 1));
         bank.is("of two and the bank", snapshot(bank), 3);
+    }
+
+    /** The same with one of each to the last byte: 20 + 4 * 6 + 14 * 30 + 3 * 12. */
+    private static void oneOfEachAmount() {
+        Bench b = Bench.ready("one of each");
+        b.quietly("NEW", "CBNK", "EEEE");
+        for (int i = 0; i < 27; i++) {
+            b.quietly("AST", "CBNK", "A" + (10 + i) + "S" + ONE + "00");
+        }
+        b.tick(100);
+        b.issue("BND", "AAAA", 5);
+        b.quietly("PLG", "AAAA", "BND" + ONE);
+        b.is("two positions and a pledge: 500", snapshot(b), 2);
+        b.quietly("PLG", "AAAA", "BND" + ONE);
+        b.is("two pledged are one amount", snapshot(b), 2);
+        b.quietly("LIM", "AAAA", "BBBB" + NIL);
+        b.is("and a limit: 512", snapshot(b), 3);
+        b.quietly("UNP", "AAAA", "BND" + Bench.amount(2));
+        b.is("and no pledge: 500", snapshot(b), 2);
     }
 
     /** More than two blocks of amounts. */
