@@ -23,6 +23,7 @@ public final class InstructionEdgesTest {
         anInstructionCame();
         anInstructionLeft();
         aPositionFloorOrLimitChanged();
+        howeverOftenItWasResolved();
         anewFromTheFirst();
         setOfNone();
         setOfOne();
@@ -383,6 +384,19 @@ public final class InstructionEdgesTest {
         b.say("LIM", "BBBB", "CCCC" + Bench.amount(2), "OK|SBBBBPAY00005|");
         b.sayAs("PAY", "BBBB", "PAY00006", eur(1, "BBBB", "CCCC", 1), "OK WAIT|");
         b.say("UNL", "BBBB", "CCCC", "OK|SBBBBPAY00006|");
+    }
+
+    /** "Whenever something may have changed": also behind many that were resolved with nothing to settle */
+    private static void howeverOftenItWasResolved() {
+        Bench b = Bench.open("however often");
+        b.issue("EUR", "AAAA", 100);
+        for (int i = 10; i < 40; i++) {
+            for (int k = 0; k < 3; k++) {
+                b.quietly("RES", "CBNK", "");
+            }
+            b.sayAs("PAY", "AAAA", "PAY000" + i, eur(5, "AAAA", "BBBB", 1), "OK DONE|SAAAAPAY000" + i + "|");
+        }
+        b.holds(2, 0, 30);
     }
 
     /** "the first in the order that can settle does; then anew from the first, until none can" */
